@@ -1,3 +1,4 @@
+import java.util.Arrays;
 import java.util.Map;
 import java.util.Random;
 import java.util.TreeMap;
@@ -22,24 +23,22 @@ public final class ModelTest {
         return length * ADDRESSES + ((low >> rest) << rest);
     }
 
-    // For each address the key of the prefix that settles it, or -1.
-    private static int[] settling(TreeMap<Integer, Integer> entries) {
-        int[] keys = new int[ADDRESSES];
-        java.util.Arrays.fill(keys, -1);
-        for (int key : entries.keySet()) {
-            int first = key % ADDRESSES;
-            int size = 1 << (16 - key / ADDRESSES);
-            java.util.Arrays.fill(keys, first, first + size, key);
+    // For each address what the longest covering prefix has to say: its peer or
+    // its length; -1 where none covers it.
+    private static int[] settled(TreeMap<Integer, Integer> entries, boolean byPeer) {
+        int[] answers = new int[ADDRESSES];
+        Arrays.fill(answers, -1);
+        for (Map.Entry<Integer, Integer> e : entries.entrySet()) {
+            int length = e.getKey() / ADDRESSES;
+            int first = e.getKey() % ADDRESSES;
+            int size = 1 << (16 - length);
+            Arrays.fill(answers, first, first + size, byPeer ? e.getValue() : length);
         }
-        return keys;
+        return answers;
     }
 
     private static int[] owners(TreeMap<Integer, Integer> entries) {
-        int[] owners = settling(entries);
-        for (int a = 0; a < ADDRESSES; a++) {
-            owners[a] = owners[a] == -1 ? -1 : entries.get(owners[a]);
-        }
-        return owners;
+        return settled(entries, true);
     }
 
     private int allow(int address, int length, int peer) {
@@ -68,8 +67,7 @@ public final class ModelTest {
     }
 
     private int length(int address) {
-        int key = settling(peers)[address & 65535];
-        return key == -1 ? -1 : key / ADDRESSES;
+        return settled(peers, false)[address & 65535];
     }
 
     private int owned(int peer) {
@@ -102,7 +100,7 @@ public final class ModelTest {
         for (int key : peers.keySet()) {
             TreeMap<Integer, Integer> others = new TreeMap<>(peers);
             others.remove(key);
-            count += java.util.Arrays.equals(owners, owners(others)) ? 1 : 0;
+            count += Arrays.equals(owners, owners(others)) ? 1 : 0;
         }
         return count;
     }
