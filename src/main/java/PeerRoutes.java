@@ -83,7 +83,7 @@ public final class PeerRoutes {
         int total = 0;
         for (int slot = 0; slot < SLOTS; slot++) {
             if (isEntryOf(slot, peer)) {
-                total += settledBy(slot);
+                total += sizeOf(slot) - coveredDirectlyInside(slot);
             }
         }
         return total;
@@ -159,7 +159,8 @@ public final class PeerRoutes {
     }
 
     private boolean covers(int slot, int address) {
-        return held[slot] && firstCovered(address, bits[slot]) == firstAddress[slot];
+        int differing = (address ^ firstAddress[slot]) & HIGHEST_ADDRESS;
+        return held[slot] && differing >> (ADDRESS_BITS - bits[slot]) == 0;
     }
 
     private int heldEntries() {
@@ -219,10 +220,6 @@ public final class PeerRoutes {
         return total;
     }
 
-    private int settledBy(int slot) {
-        return sizeOf(slot) - coveredDirectlyInside(slot);
-    }
-
     // Without the entry, what it settles goes to the enclosing one: nothing
     // changes if that has the same peer or there is nothing to hand on.
     private boolean isUseless(int slot) {
@@ -230,7 +227,7 @@ public final class PeerRoutes {
         if (outer != NO_SLOT && peerOf[outer] == peerOf[slot]) {
             return true;
         }
-        return settledBy(slot) == 0;
+        return coveredDirectlyInside(slot) == sizeOf(slot);
     }
 
     private int lesserOwned(int peer, int lowest, int candidate, int found) {
