@@ -46,11 +46,14 @@ public final class LanguageTest {
             JavacTask task = (JavacTask) compiler.getTask(
                 null, files, null, null, null, files.getJavaFileObjects(SOURCE));
             SourcePositions positions = Trees.instance(task).getSourcePositions();
+            int classes = 0;
             for (CompilationUnitTree unit : task.parse()) {
                 for (Tree type : unit.getTypeDecls()) {
                     checkClass(unit, (ClassTree) type, positions);
+                    classes++;
                 }
             }
+            check(classes == 1, "one class is found in " + SOURCE);
         }
         System.out.println(wrong == 0 ? "the form is the language's" : wrong + " faults");
         if (wrong != 0) {
@@ -72,7 +75,7 @@ public final class LanguageTest {
                 fields += constant ? 0 : 1;
             }
         }
-        check(calls.containsKey("allow"), "the class's methods are found in " + SOURCE);
+        check(calls.containsKey("allow"), "the class's methods are found");
         check(fields <= MOST_FIELDS, "at most " + MOST_FIELDS + " fields: " + fields);
         for (String method : calls.keySet()) {
             List<String> longest = longestWay(method, calls, new ArrayList<>());
