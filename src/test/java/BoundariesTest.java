@@ -207,6 +207,32 @@ public final class BoundariesTest {
         }
         due("512th call after refused ones", refusing.allow(0, 16, 0), 1);
         due("512th call after replacing ones", replacing.entries((CALLS - 1) % 8), 1);
+        oneCallOverAndOver();
+    }
+
+    private static void oneCallOverAndOver() {
+        PeerRoutes[] x = new PeerRoutes[8];
+        for (int i = 0; i < x.length; i++) {
+            x[i] = withEntries(1);
+        }
+        for (int call = 2; call < CALLS; call++) {
+            due("deny as call " + call, x[0].deny(0, 16), -1);
+            due("forget as call " + call, x[1].forget(7), 0);
+            due("owner as call " + call, x[2].owner(call), 0);
+            due("length as call " + call, x[3].length(call), 0);
+            due("owned as call " + call, x[4].owned(0), 65536);
+            due("next as call " + call, x[5].next(0, call), call);
+            due("useless as call " + call, x[6].useless(), 0);
+            due("entries as call " + call, x[7].entries(0), 1);
+        }
+        due("deny as 512th call", x[0].deny(0, 0), 0);
+        due("forget as 512th call", x[1].forget(0), 1);
+        due("owner as 512th call", x[2].owner(65535), 0);
+        due("length as 512th call", x[3].length(65535), 0);
+        due("owned as 512th call", x[4].owned(-1), 0);
+        due("next as 512th call", x[5].next(0, 65535), 65535);
+        due("useless as 512th call", x[6].useless(), 0);
+        due("entries as 512th call", x[7].entries(1), 0);
     }
 
     private static void addressesAre0To65535() {
